@@ -15,6 +15,7 @@ public final class PromisesTest {
     tornNumbers();
     tornLocks();
     tornRowsDoNotStand();
+    mostRows();
     look();
     holder();
     rings();
@@ -334,6 +335,7 @@ public final class PromisesTest {
     due.is("the last lock", x.guilty(3), 15);
     due.is("not the lowest, the heaviest", x.guilty(4), 5);
     due.is("weight below it", x.weight(4, 1), 2);
+    due.is("the first lock", Due.reader("t1;0W1w0;1W1w1").guilty(0), 0);
     due.is("weight of -1", x.weight(0, -1), NONE);
     for (int p : ODD_PICTURES) due.is("weight in " + p, x.weight(p, 0), NONE);
     for (int p : ODD_PICTURES) due.is("guilty in " + p, x.guilty(p), NONE);
@@ -353,10 +355,31 @@ public final class PromisesTest {
     due.is("the next moves on", x.stuck(2), 23);
     Due.show(x, "t3;23R1");
     due.is("all that have it must be alike", x.stuck(2), NONE);
-    x.meter(2, 10);
+    due.is("the first call counts, too", Due.reader("t1;0R1cab", "t2;0R1cbb").stuck(0), NONE);
+    due.is("calls that begin alike are not alike", Due.reader("t1;0R1cab", "t2;0R1ca").stuck(0), NONE);
     StuckHands y = Due.reader("t1;0R1", "t2;0R3");
     y.meter(2, 1);
     due.is("counters are alike as they stand, not by their rest", y.stuck(0), NONE);
+  }
+
+  /** All threads in one picture, and one row more. */
+  private static void mostRows() {
+    StringBuilder text = new StringBuilder("t1");
+    for (int t = 23; t >= 0; t--) text.append(";").append(t).append("R1c").append((char) ('a' + t % 12));
+    int end = text.length();
+    StuckHands x = Due.reader(text.toString(), text.append(";7R1").toString().replace("t1", "t2"));
+    for (int p = 0; p < 2; p++) {
+      due.is("all threads", x.count(p, 1), 24);
+      due.is("heaps of all threads", x.heaps(p, 0), 12);
+      due.is("one heap of all threads", x.heaps(p, 1), 1);
+      due.is("heap of the last", x.heap(p, 0, 23), 11);
+      due.is("heap of the first", x.heap(p, 0, 12), 0);
+      due.is("lowest of all", x.heap(p, 1, 23), 0);
+    }
+    due.is("all rows stand", x.torn(0), NONE);
+    due.is("one more is torn", x.torn(1), end + 1);
+    for (int t = 0; t < 24; t++) due.is("stuck of all threads", x.stuck(t), t);
+    due.is("no more than all", x.stuck(24), NONE);
   }
 
   private static void order(StuckHands x, String what, int... locks) {
@@ -395,6 +418,9 @@ public final class PromisesTest {
     order(Due.reader("t1;0W1h0w1;1W1h1w2;2W1h2w3", "t2;0W1h3w1"), "a ring that does not hold the lock it is reached by", 1, 2, 3);
     order(Due.reader("t1;0W1h1w3;1W1h3w4;2W1h4w1", "t2;0W1h3w0;1W1h0w2"), "dead ends aside", 1, 3, 4);
     order(Due.reader("t1;0W1h0,1w2;1W1h2,3w1"), "each lock held is ahead", 1, 2);
+    order(Due.reader("t1;0W1h0w1;1W1h1w0"), "the first two locks", 0, 1);
+    order(Due.reader("t1;0W1h0w1;1W1h1w3;2W1h3w4;3W1h4w0", "t2;0W1h0w2;1W1h2w5;2W1h5w6;3W1h6w0"), "two ways back of one length", 0, 1, 3, 4);
+    order(Due.reader("t1;0W1h0w1;1W1h1w6;2W1h6w5;3W1h5w0", "t2;0W1h1w3;1W1h3w4;2W1h4w0"), "two ways from one lock", 0, 1, 3, 4);
   }
 
   private static void meterIs(StuckHands x, int m, int v) {
@@ -459,19 +485,19 @@ public final class PromisesTest {
   }
 
   private static void distance() {
-    StuckHands x = Due.reader("t1;0R1;1R1cabc;2R1cabc;3R1cbc;4R1cxabc;5R1cabd;6R1ccba;7R1cabcdefghijkl;8R1cbcdefghijklm;9R1cmmmmmmmmmmmm",
+    StuckHands x = Due.reader("t1;0R1;1R1cabc;2R1cabc;3R1cbc;4R1cxabc;5R1cabd;6R1ccba;7R1cabcdefghijkl;8R1cbcdefghijklm;9R1cmmmmmmmmmmmm;10R1cqrstu;11R1crstuv;12R1cqqsttuu",
       "t2;0R1ckitten;1R1csitting");
     int[][] want = {{0, 0, 0}, {1, 2, 0}, {1, 3, 1}, {1, 4, 1}, {1, 5, 1}, {1, 6, 2}, {0, 1, 3}, {0, 7, 12}, {7, 8, 2}, {7, 9, 12},
-      {3, 4, 2}, {8, 9, 11}};
+      {3, 4, 2}, {8, 9, 11}, {10, 11, 2}, {10, 12, 3}};
     for (int[] row : want) {
       due.is("distance " + row[0] + " " + row[1], x.distance(0, row[0], row[1]), row[2]);
       due.is("distance " + row[1] + " " + row[0], x.distance(0, row[1], row[0]), row[2]);
     }
     due.is("kitten, sitting", x.distance(1, 0, 1), 3);
     due.is("to itself", x.distance(0, 7, 7), 0);
-    due.is("one is not there", x.distance(0, 0, 10), NONE);
-    due.is("the other is not there", x.distance(0, 10, 0), NONE);
-    due.is("not there, to itself", x.distance(0, 10, 10), NONE);
+    due.is("one is not there", x.distance(0, 0, 13), NONE);
+    due.is("the other is not there", x.distance(0, 13, 0), NONE);
+    due.is("not there, to itself", x.distance(0, 13, 13), NONE);
     for (int t : ODD) due.is("distance to " + t, x.distance(0, 0, t), NONE);
     for (int t : ODD) due.is("distance from " + t, x.distance(0, t, 0), NONE);
     for (int p : ODD_PICTURES) due.is("distance in " + p, x.distance(p, 0, 0), NONE);
