@@ -356,6 +356,8 @@ public final class PromisesTest {
     Due.show(x, "t3;23R1");
     due.is("all that have it must be alike", x.stuck(2), NONE);
     due.is("the first call counts, too", Due.reader("t1;0R1cab", "t2;0R1cbb").stuck(0), NONE);
+    due.is("twelve calls alike", Due.reader("t1;5R1cabcdefghijkl", "t2;5R1cabcdefghijkl").stuck(0), 5);
+    due.is("the twelfth call counts, too", Due.reader("t1;5R1cabcdefghijkl", "t2;5R1cabcdefghijkm").stuck(0), NONE);
     due.is("calls that begin alike are not alike", Due.reader("t1;0R1cab", "t2;0R1ca").stuck(0), NONE);
     StuckHands y = Due.reader("t1;0R1", "t2;0R3");
     y.meter(2, 1);
