@@ -4,12 +4,23 @@ final class Due {
 
   private int asked = 0;
   private int wrong = 0;
+  private String subject = "";
+
+  /** What the calls that follow are about; answers how many were asked before. */
+  int about(String newSubject) {
+    subject = newSubject;
+    return asked;
+  }
+
+  int asked() {
+    return asked;
+  }
 
   void is(String call, long got, long want) {
     asked++;
     if (got != want) {
       wrong++;
-      System.out.println(call + " answered " + got + ", due is " + want);
+      System.out.println(subject + call + " answered " + got + ", due is " + want);
     }
   }
 
