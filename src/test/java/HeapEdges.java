@@ -6,7 +6,13 @@ final class HeapEdges {
   private HeapEdges() {
   }
 
+  /** Both orders of the rows, since a distance may be worked out from the row that comes last. */
   private static void apart(Due due, String one, String other, int want) {
+    apartInOrder(due, one, other, want);
+    apartInOrder(due, other, one, want);
+  }
+
+  private static void apartInOrder(Due due, String one, String other, int want) {
     StuckHands x = Due.reader("t1;4R1" + (one.isEmpty() ? "" : "c" + one) + ";7F2" + (other.isEmpty() ? "" : "c" + other));
     due.is("distance of '" + one + "' and '" + other + "'", x.distance(0, 4, 7), want);
     due.is("distance of '" + other + "' and '" + one + "'", x.distance(0, 7, 4), want);
@@ -18,6 +24,15 @@ final class HeapEdges {
   private static String ladder() {
     StringBuilder text = new StringBuilder("t1;5R1");
     for (int n = 1; n <= 12; n++) text.append(";").append((5 + 7 * n) % 24).append("R1c").append(A12, 0, n);
+    return text.toString();
+  }
+
+  /** All threads in one row: each is 1 apart from the next one, by its first or second call in turn, and 2 from all others. */
+  private static String longestLine() {
+    StringBuilder text = new StringBuilder("t4");
+    for (int t = 0; t < 24; t++) {
+      text.append(";").append(t).append("R1c").append((char) ('a' + t / 2)).append((char) ('a' + (t + 1) / 2));
+    }
     return text.toString();
   }
 
@@ -57,7 +72,7 @@ final class HeapEdges {
   }
 
   static void hungTogether(Due due) {
-    StuckHands x = Due.reader(ladder(), "t2;5R1cab;6R1ccd;7R1ccb", "t3;23R1ca;0R1cabc;12R1cab;1R1czzz;2R1czzy");
+    StuckHands x = Due.reader(ladder(), "t2;5R1cab;6R1ccd;7R1ccb", "t3;23R1ca;0R1cabc;12R1cab;1R1czzz;2R1czzy", longestLine());
     due.is("each alone by 0", x.heaps(0, 0), 13);
     due.is("all by 1, though the ends are 12 apart", x.heaps(0, 1), 1);
     for (int n = 0; n <= 12; n++) due.is("the lowest of " + n, x.heap(0, 1, (5 + 7 * n) % 24), 2);
@@ -65,6 +80,9 @@ final class HeapEdges {
     due.is("two heaps", x.heaps(2, 1), 2);
     due.is("lowest of the one", x.heap(2, 1, 23), 0);
     due.is("lowest of the other", x.heap(2, 1, 2), 1);
+    due.is("all threads apart", x.heaps(3, 0), 24);
+    due.is("all threads in a row", x.heaps(3, 1), 1);
+    for (int t = 0; t < 24; t++) due.is("lowest of the row of " + t, x.heap(3, 1, t), 0);
   }
 
   static void notAboveD(Due due) {

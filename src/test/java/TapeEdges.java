@@ -3,7 +3,7 @@ import java.util.function.Consumer;
 /** The edges of the reader as a whole: its calls, its tape and the pictures that come (promises 1 to 3). */
 final class TapeEdges {
   private static final int NONE = StuckHands.NONE;
-  private static final String[] SHOWN = {"t5;0W1h0w1cab;1W2h1w0cb;2R3h2;3S4w2", "t2;0W1h0w1cab;3S5w4;4F1!"};
+  private static final String[] SHOWN = {"t5;0W1h1w2cab;1W2h2w1cb;2R3h3;3S4w3", "t2;0W1h1w2cab;3S5w4;4F1!"};
 
   private TapeEdges() {
   }
@@ -70,7 +70,7 @@ final class TapeEdges {
   static void readersShareNothing(Due due) {
     StuckHands x = Due.reader(SHOWN);
     String before = answers(Due.reader(SHOWN));
-    StuckHands other = Due.reader("t5;0R9h0;1W9w0", "t6;1W9w0", "t7;9R1h1,2,3,4");
+    StuckHands other = Due.reader("t5;0R9h0;1W9w0", "t6;1W9w0", "t7;8W1h0w1;9W1h1w0");
     other.meter(2, 1);
     Due.feed(other, "t8;0R1;1R1;2R1;3R1;4R1;5R1");
     due.is("the one has not what the other was shown", answers(x).equals(before), true);
@@ -80,6 +80,12 @@ final class TapeEdges {
     due.is("its own rows", other.look(0, 0, 1), 9);
     StuckHands third = new StuckHands();
     due.is("a tape that another filled is empty", third.picture(1), NONE);
+    due.is("a new one has no picture", third.count(NONE, 0), 0);
+    due.is("no meter of another", third.count(NONE, 2), 10000);
+    due.is("no stuck thread of another", third.stuck(0), NONE);
+    due.is("no broken order of another", third.broken(0), NONE);
+    due.is("all ticks are free", Due.show(third, "t5"), 0);
+    due.is("no row of another", third.count(0, 1), 0);
   }
 
   private static void refused(Due due, String call, Consumer<StuckHands> calls) {
@@ -97,9 +103,9 @@ final class TapeEdges {
     refused(due, "meter", x -> due.is("meter", x.meter(1, 5) || x.meter(10001, 5) || x.meter(9, -1) || x.meter(9, 101), false));
     refused(due, "picture of too many", x -> due.is("picture", x.picture(1), NONE));
     refused(due, "picture of -1", x -> due.is("picture", x.picture(-1), NONE));
-    refused(due, "picture with a torn head", x -> due.is("picture", Due.show(x, "x9;0R1h5;4W1h9w8"), -2));
-    refused(due, "picture of a tick that is there", x -> due.is("picture", Due.show(x, "t5;0R9h5;4W1h1w2"), -2));
-    refused(due, "picture of a tick that is there, torn behind", x -> due.is("picture", Due.show(x, "t2;0R9h5;x"), -2));
+    refused(due, "picture with a torn head", x -> due.is("picture", Due.show(x, "x9;0R1h5;4W1h0w1;5W1h1w0"), -2));
+    refused(due, "picture of a tick that is there", x -> due.is("picture", Due.show(x, "t5;0R9h5;4W1h0w1;5W1h1w0"), -2));
+    refused(due, "picture of a tick that is there, torn behind", x -> due.is("picture", Due.show(x, "t2;0R9h5;4W1h0w1;5W1h1w0;x"), -2));
     refused(due, "questions", x -> {
       due.is("look", x.look(0, 24, 0), NONE);
       due.is("work", x.work(0, 0, 0, 0), NONE);

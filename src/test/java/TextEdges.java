@@ -53,7 +53,7 @@ final class TextEdges {
     String row = "t1;0W1h2,3w4cab";
     for (int at = 3; at <= row.length(); at++) {
       tornAt(due, row.substring(0, at) + " " + row.substring(at), at);
-      tornAt(due, row.substring(0, at) + "\n" + row.substring(at), at);
+      tornAt(due, row.substring(0, at) + "\t" + row.substring(at), at);
     }
   }
 
@@ -142,6 +142,9 @@ final class TextEdges {
     due.is("two locks", Due.reader("t1;0R1h1,15").look(0, 0, 2), 0x8002);
     due.is("three locks", Due.reader("t1;0R1h1,15,0").look(0, 0, 2), 0x8003);
     due.is("four locks", Due.reader("t1;0R1h1,15,0,10").look(0, 0, 2), 0x8403);
+    onlyBehind(due, "t1;0R1h10", ",c;");
+    onlyBehind(due, "t1;0W1h10,11", ",w");
+    onlyBehind(due, "t1;0R1h10,11,12", ",c;");
     onlyBehind(due, "t1;0R1h1,15,0,10", "c;");
     onlyBehind(due, "t1;0W1h1,15,0,10", "w");
     onlyBehind(due, "t1;0R1h12,", DIGITS);
