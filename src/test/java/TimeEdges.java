@@ -110,6 +110,7 @@ final class TimeEdges {
     broken(due, "one order alone", Due.reader("t1;0W1h0w1;1R1h1", "t2;1W1h0w1"));
     broken(due, "not two threads together", Due.reader("t1;0R1h0;1W1w1;2R1h2", "t2;0R1h1;1W1w0"));
     broken(due, "a torn row is none", Due.reader("t1;0W1h0w1", "t2;0W1h1w0x"));
+    broken(due, "one seen in two pictures", Due.reader("t1;0W1h0w1;1W1h1w0", "t2;0W1h0w1", "t3;5S1h1w0"), 0, 1);
     broken(due, "a refused picture is none", Due.reader("t1;0W1h0w1", "t1;0W1h1w0"));
   }
 
